@@ -182,6 +182,11 @@ public final class NotesTest {
         due("6: a rest at its end", rows.melisma(3, 2), STATE);
         due("6: a rest at its beginning", rows.melisma(4, 2), STATE);
         due("6: a syllable behind the first", rows.melisma(0, 2), STATE);
+        for (int v = 0; v < 4; v++) {
+            WordRows sung = withNotes(3);
+            sung.syllable(2, v, 5, 0, false);
+            due("6: a syllable in verse " + v, sung.melisma(0, 3), STATE);
+        }
         due("6: nothing came", rows.told(2), 0);
         due("6: OUTSIDE ahead of STATE", rows.melisma(4, 3), OUTSIDE);
         due("6: a syllable at the first", rows.melisma(1, 2), 1);
@@ -204,6 +209,12 @@ public final class NotesTest {
         rows.syllable(0, 0, 5, 0, false);
         rows.syllable(9, 3, 5, 0, false);
         due("7: a syllable in verse 3", rows.refrain(8, 2), STATE);
+        for (int v = 1; v < 4; v++) {
+            WordRows sung = withNotes(2);
+            sung.syllable(1, v, 5, 0, false);
+            due("7: a syllable in verse " + v, sung.refrain(0, 2), STATE);
+            due("7: ahead of it", sung.refrain(0, 1), 1);
+        }
         due("7: a syllable in verse 0", rows.refrain(0, 1), 1);
         due("7: of another", rows.refrain(0, 2), STATE);
         due("7: next to another", rows.refrain(1, 2), 2);

@@ -14,6 +14,7 @@ public final class PlacesTest {
         chords();
         translations();
         overfull();
+        mostNotes();
         hyphenCounts();
         hyphenPlaces();
         hyphensWithout();
@@ -175,6 +176,9 @@ public final class PlacesTest {
         due("11: not pushed any more", rows.x(2, 0), 40);
         rows.chord(0, 150);
         due("11: a chord that is not the last one", rows.place(), 50);
+        rows.chord(1, 1);
+        rows.place();
+        due("11: a chord of width 1 is one", rows.x(1, 0), 160);
     }
 
     private static void translations() {
@@ -219,6 +223,30 @@ public final class PlacesTest {
         rows.syllable(0, 0, 200, 0, false);
         due("11: a box that is not the last one", rows.place(), 91);
         due("11: the same again", rows.place(), 91);
+        WordRows one = new WordRows();
+        one.note(200, 1, false);
+        one.limit(100);
+        due("11: one note alone", one.place(), 100);
+    }
+
+    private static void mostNotes() {
+        WordRows rows = withNotes(60);
+        for (int i = 0; i < 60; i++) {
+            rows.chord(i, 200);
+            for (int v = 0; v < 4; v++) {
+                rows.syllable(i, v, 200, 0, false);
+            }
+        }
+        rows.limit(10000);
+        due("11: 100, and 59 times 212, and the last chord", rows.place(), 12808 - 10000);
+        due("12: the last note", rows.x(59, 0), 12608);
+        due("12: pushed", rows.x(59, 1), 192);
+        due("13: the last box", rows.box(59, 3, 3), 12708);
+        due("14: behind the last box", rows.hyphens(59, 3), 0);
+        due("17: 1000 (100 + 59 * 192) / 12608", rows.strain(), 906);
+        due("18: none", rows.faults(), 0);
+        due("20: alike", rows.shares(3), 0);
+        due("21: one row", rows.row(3), 0);
     }
 
     /** Two boxes of verse 0 with this room (4 to 600) between them. */
@@ -337,6 +365,11 @@ public final class PlacesTest {
         rows.chord(1, 100);
         rows.place();
         due("17: 1000 (3 + 90) / 113", rows.strain(), 823);
+        rows.clear();
+        rows.note(10, 1, false);
+        rows.syllable(0, 0, 200, 0, false);
+        rows.place();
+        due("17: all of it is pushed", rows.strain(), 1000);
         rows.note(10, 1, true);
         rows.clear();
         due("17: STATE ahead of Arithmetic", rows.strain(), STATE);

@@ -152,6 +152,19 @@ public final class ToldTest {
         tied.syllable(2, 1, 9, 3, false);
         due("20: another second vowel", tied.shares(3), NONE);
         due("20: verses without boxes are not alike", withNotes(2).shares(1), NONE);
+        WordRows wiped = withNotes(1);
+        wiped.syllable(0, 0, 5, 0, false);
+        wiped.syllable(0, 0, 6, 0, false);
+        wiped.wipe(0, 0);
+        wiped.syllable(0, 0, 5, 0, false);
+        wiped.syllable(0, 1, 5, 0, false);
+        due("20: what was wiped does not count", wiped.shares(1), 0);
+        WordRows last = withNotes(60);
+        for (int v = 0; v < 2; v++) {
+            last.syllable(59, v, 5, 0, false);
+            last.syllable(59, v, 6, 0, false);
+        }
+        due("20: two under the sixtieth note", last.shares(1), 0);
     }
 
     private static void shareWithOther(String what, int w, int vowel, boolean goesOn, int want) {
@@ -236,6 +249,9 @@ public final class ToldTest {
         }
         rows.place();
         due("28: placed", rows.told(7), 1);
+        rows.clear();
+        rows.note(10, 1, false);
+        due("28: chords of notes that are gone", rows.told(6), 0);
         due("28: what -1", rows.told(-1), OUTSIDE);
         due("28: what 8", rows.told(8), OUTSIDE);
         due("28: lowest", rows.told(LOW), OUTSIDE);
@@ -295,6 +311,7 @@ public final class ToldTest {
         rows.place();
         due("29: no box", rows.box(0, 0, 0), UNKNOWN);
         due("29: not pushed", rows.x(3, 0), 60);
+        due("29: the first syllable", rows.syllable(0, 0, 5, 0, false), 1);
         due("29: no melismas are counted", rows.melisma(0, 2), 1);
         due("29: no refrains are counted", rows.refrain(0, 3), 1);
     }
