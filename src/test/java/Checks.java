@@ -7,6 +7,15 @@ final class Checks {
     private int made;
     private int wrong;
 
+    /** A new object with so many notes, each 10 wide and of length 1. */
+    static WordRows withNotes(int n) {
+        WordRows rows = new WordRows();
+        for (int i = 0; i < n; i++) {
+            rows.note(10, 1, false);
+        }
+        return rows;
+    }
+
     void due(String call, int got, int want) {
         made++;
         if (got != want) {

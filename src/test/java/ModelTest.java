@@ -63,7 +63,7 @@ public final class ModelTest {
 
     private void runAll() throws IllegalAccessException {
         while (left > 0 && !isWrong) {
-            if (oneIn(150)) {
+            if (oneIn(400)) {
                 both("clear");
             } else if (plain.told(0) < wantedNotes && oneIn(2)) {
                 both("note", width(), length(), oneIn(8));
@@ -71,6 +71,7 @@ public final class ModelTest {
                 cutting();
             } else if (oneIn(3)) {
                 setting();
+                sing();
             } else {
                 telling();
             }
@@ -115,15 +116,32 @@ public final class ModelTest {
         String name = pick(TELLING);
         switch (name) {
             case "x", "in" -> both(name, note(), what(1));
-            case "box" -> both(name, note(), verse(), what(4));
-            case "hyphens" -> both(name, note(), verse());
-            case "hyphen" -> both(name, note(), verse(), oneIn(20) ? extreme() : number(0, 3));
-            case "line" -> both(name, lineNote(), verse(), what(1));
+            case "box", "hyphens", "hyphen", "line" -> tellingOfBox(name, oneIn(3) ? lineNote() : note());
             case "strain", "faults" -> both(name);
             case "fault" -> both(name, oneIn(20) ? extreme() : random.nextInt(plain.faults() + 1), what(2));
             case "shares", "row" -> both(name, verse());
             default -> both(name, what(7));
         }
+    }
+
+    private void tellingOfBox(String name, int wanted) throws IllegalAccessException {
+        int note = wanted;
+        int verse = verse();
+        for (int tries = 0; tries < 10 && !isBox(note, verse) && !oneIn(20); tries++) {
+            note = note();
+            verse = verse();
+        }
+        switch (name) {
+            case "box" -> both(name, note, verse, what(4));
+            case "hyphens" -> both(name, note, verse);
+            case "hyphen" -> both(name, note, verse, oneIn(20) ? extreme() : number(0, 2));
+            default -> both(name, note, verse, what(1));
+        }
+    }
+
+    /** Of a box, a wrong what is OUTSIDE; without one the note or the verse is UNKNOWN. */
+    private boolean isBox(int note, int verse) {
+        return plain.box(note, verse, -1) == WordRows.OUTSIDE;
     }
 
     private void cutting() throws IllegalAccessException {

@@ -26,14 +26,6 @@ public final class NotesTest {
         checks.due(call, got, want);
     }
 
-    private static WordRows withNotes(int n) {
-        WordRows rows = new WordRows();
-        for (int i = 0; i < n; i++) {
-            rows.note(10, 1, false);
-        }
-        return rows;
-    }
-
     private static void newObject() {
         WordRows rows = new WordRows();
         for (int what = 0; what < 8; what++) {
@@ -74,7 +66,7 @@ public final class NotesTest {
     }
 
     private static void syllable() {
-        WordRows rows = withNotes(2);
+        WordRows rows = Checks.withNotes(2);
         due("3: note -1", rows.syllable(-1, 0, 5, 0, false), UNKNOWN);
         due("3: note 2", rows.syllable(2, 0, 5, 0, false), UNKNOWN);
         due("3: lowest note", rows.syllable(LOW, 0, 5, 0, false), UNKNOWN);
@@ -97,7 +89,7 @@ public final class NotesTest {
     }
 
     private static void syllableState() {
-        WordRows rows = withNotes(3);
+        WordRows rows = Checks.withNotes(3);
         due("3: a rest comes", rows.note(10, 1, true), 3);
         due("3: a note behind the rest", rows.note(10, 1, false), 4);
         due("3: two in verse 0", rows.syllable(4, 0, 5, 0, false), 1);
@@ -118,7 +110,7 @@ public final class NotesTest {
     }
 
     private static void wipe() {
-        WordRows rows = withNotes(2);
+        WordRows rows = Checks.withNotes(2);
         rows.syllable(0, 0, 5, 0, false);
         rows.syllable(0, 0, 6, 0, true);
         rows.syllable(0, 1, 7, 0, true);
@@ -138,7 +130,7 @@ public final class NotesTest {
     }
 
     private static void chord() {
-        WordRows rows = withNotes(1);
+        WordRows rows = Checks.withNotes(1);
         rows.note(10, 1, true);
         due("5: note -1", rows.chord(-1, 5), UNKNOWN);
         due("5: note 2", rows.chord(2, 5), UNKNOWN);
@@ -155,7 +147,7 @@ public final class NotesTest {
     }
 
     private static void melisma() {
-        WordRows rows = withNotes(42);
+        WordRows rows = Checks.withNotes(42);
         due("6: from -1", rows.melisma(-1, 2), UNKNOWN);
         due("6: from 42", rows.melisma(42, 2), UNKNOWN);
         due("6: UNKNOWN ahead of OUTSIDE", rows.melisma(42, 0), UNKNOWN);
@@ -175,7 +167,7 @@ public final class NotesTest {
     }
 
     private static void melismaState() {
-        WordRows rows = withNotes(4);
+        WordRows rows = Checks.withNotes(4);
         rows.note(10, 1, true);
         rows.note(10, 1, false);
         rows.syllable(1, 3, 5, 0, false);
@@ -183,7 +175,7 @@ public final class NotesTest {
         due("6: a rest at its beginning", rows.melisma(4, 2), STATE);
         due("6: a syllable behind the first", rows.melisma(0, 2), STATE);
         for (int v = 0; v < 4; v++) {
-            WordRows sung = withNotes(3);
+            WordRows sung = Checks.withNotes(3);
             sung.syllable(2, v, 5, 0, false);
             due("6: a syllable in verse " + v, sung.melisma(0, 3), STATE);
         }
@@ -198,7 +190,7 @@ public final class NotesTest {
     }
 
     private static void refrain() {
-        WordRows rows = withNotes(60);
+        WordRows rows = Checks.withNotes(60);
         due("7: from -1", rows.refrain(-1, 1), UNKNOWN);
         due("7: from 60", rows.refrain(60, 1), UNKNOWN);
         due("7: UNKNOWN ahead of OUTSIDE", rows.refrain(60, 0), UNKNOWN);
@@ -210,7 +202,7 @@ public final class NotesTest {
         rows.syllable(9, 3, 5, 0, false);
         due("7: a syllable in verse 3", rows.refrain(8, 2), STATE);
         for (int v = 1; v < 4; v++) {
-            WordRows sung = withNotes(2);
+            WordRows sung = Checks.withNotes(2);
             sung.syllable(1, v, 5, 0, false);
             due("7: a syllable in verse " + v, sung.refrain(0, 2), STATE);
             due("7: ahead of it", sung.refrain(0, 1), 1);
@@ -225,8 +217,8 @@ public final class NotesTest {
         due("7: told", rows.told(3), 3);
         due("7: first note", rows.in(39, 1), 20);
         due("7: not in one", rows.in(50, 1), NONE);
-        due("7: sixty notes", withNotes(60).refrain(0, 60), 1);
-        WordRows rests = withNotes(1);
+        due("7: sixty notes", Checks.withNotes(60).refrain(0, 60), 1);
+        WordRows rests = Checks.withNotes(1);
         rests.note(10, 1, true);
         due("7: a rest may be in it", rests.refrain(0, 2), 1);
     }
@@ -265,7 +257,7 @@ public final class NotesTest {
     }
 
     private static void refusedCallsKeepPlaces() {
-        WordRows rows = withNotes(2);
+        WordRows rows = Checks.withNotes(2);
         rows.place();
         rows.note(9, 1, false);
         rows.syllable(0, 4, 5, 0, false);
@@ -286,7 +278,7 @@ public final class NotesTest {
     }
 
     private static void doneCallsEndPlaces() {
-        WordRows rows = withNotes(1);
+        WordRows rows = Checks.withNotes(1);
         ended(rows, "note", () -> rows.note(10, 1, false));
         ended(rows, "syllable", () -> rows.syllable(0, 0, 5, 0, true));
         ended(rows, "wipe of none", () -> rows.wipe(1, 3));

@@ -28,14 +28,6 @@ public final class PlacesTest {
         checks.due(call, got, want);
     }
 
-    private static WordRows withNotes(int n) {
-        WordRows rows = new WordRows();
-        for (int i = 0; i < n; i++) {
-            rows.note(10, 1, false);
-        }
-        return rows;
-    }
-
     private static void notesAlone() {
         WordRows rows = new WordRows();
         due("11: nothing there", rows.place(), 0);
@@ -50,7 +42,7 @@ public final class PlacesTest {
     }
 
     private static void refusals() {
-        WordRows rows = withNotes(2);
+        WordRows rows = Checks.withNotes(2);
         rows.syllable(0, 0, 5, 0, true);
         due("12: STATE", rows.x(0, 0), STATE);
         due("13: STATE", rows.box(0, 0, 0), STATE);
@@ -86,7 +78,7 @@ public final class PlacesTest {
     }
 
     private static void ways() {
-        WordRows rows = withNotes(1);
+        WordRows rows = Checks.withNotes(1);
         rows.syllable(0, 0, 25, 7, false);
         rows.place();
         due("11: half the box, cut off", rows.x(0, 0), 12);
@@ -107,7 +99,7 @@ public final class PlacesTest {
     }
 
     private static void gaps() {
-        WordRows rows = withNotes(3);
+        WordRows rows = Checks.withNotes(3);
         rows.align(0, 1);
         rows.syllable(0, 0, 100, 0, true);
         rows.syllable(1, 0, 100, 0, false);
@@ -126,7 +118,7 @@ public final class PlacesTest {
     }
 
     private static void boxesAcrossNotes() {
-        WordRows rows = withNotes(4);
+        WordRows rows = Checks.withNotes(4);
         rows.align(0, 1);
         rows.align(3, 1);
         rows.syllable(0, 0, 200, 0, true);
@@ -141,7 +133,7 @@ public final class PlacesTest {
     }
 
     private static void tied() {
-        WordRows rows = withNotes(2);
+        WordRows rows = Checks.withNotes(2);
         rows.syllable(0, 0, 20, 3, false);
         rows.syllable(0, 0, 31, 9, true);
         rows.syllable(1, 0, 10, 0, false);
@@ -162,7 +154,7 @@ public final class PlacesTest {
     }
 
     private static void chords() {
-        WordRows rows = withNotes(3);
+        WordRows rows = Checks.withNotes(3);
         rows.chord(0, 50);
         rows.chord(2, 70);
         rows.place();
@@ -182,7 +174,7 @@ public final class PlacesTest {
     }
 
     private static void translations() {
-        WordRows rows = withNotes(3);
+        WordRows rows = Checks.withNotes(3);
         rows.syllable(0, 1, 101, 0, true);
         rows.syllable(1, 1, 20, 0, false);
         rows.syllable(2, 1, 20, 0, false);
@@ -230,7 +222,7 @@ public final class PlacesTest {
     }
 
     private static void mostNotes() {
-        WordRows rows = withNotes(60);
+        WordRows rows = Checks.withNotes(60);
         for (int i = 0; i < 60; i++) {
             rows.chord(i, 200);
             for (int v = 0; v < 4; v++) {
@@ -307,7 +299,7 @@ public final class PlacesTest {
     }
 
     private static void lines() {
-        WordRows rows = withNotes(5);
+        WordRows rows = Checks.withNotes(5);
         rows.align(0, 1);
         rows.align(1, 1);
         rows.melisma(1, 3);
@@ -331,7 +323,7 @@ public final class PlacesTest {
     }
 
     private static void linesWithout() {
-        WordRows rows = withNotes(3);
+        WordRows rows = Checks.withNotes(3);
         rows.align(0, 1);
         rows.melisma(0, 2);
         rows.syllable(0, 0, 18, 0, false);

@@ -24,14 +24,6 @@ public final class ToldTest {
         checks.due(call, got, want);
     }
 
-    private static WordRows withNotes(int n) {
-        WordRows rows = new WordRows();
-        for (int i = 0; i < n; i++) {
-            rows.note(10, 1, false);
-        }
-        return rows;
-    }
-
     private static void isFault(WordRows rows, int i, int which, int verse, int note) {
         due("19: which of " + i, rows.fault(i, 0), which);
         due("19: the verse of " + i, rows.fault(i, 1), verse);
@@ -39,7 +31,7 @@ public final class ToldTest {
     }
 
     private static void noFaults() {
-        WordRows rows = withNotes(3);
+        WordRows rows = Checks.withNotes(3);
         due("18: verses without boxes have none", rows.faults(), 0);
         rows.syllable(0, 0, 5, 0, true);
         rows.syllable(1, 0, 5, 0, true);
@@ -51,7 +43,7 @@ public final class ToldTest {
     }
 
     private static void lackingBoxes() {
-        WordRows rows = withNotes(5);
+        WordRows rows = Checks.withNotes(5);
         rows.note(10, 1, true);
         rows.note(10, 1, false);
         rows.melisma(1, 2);
@@ -74,7 +66,7 @@ public final class ToldTest {
     }
 
     private static void goingNowhere() {
-        WordRows rows = withNotes(2);
+        WordRows rows = Checks.withNotes(2);
         rows.syllable(0, 1, 5, 0, true);
         rows.translation(1, true);
         due("18: a translation that goes on", rows.faults(), 1);
@@ -92,7 +84,7 @@ public final class ToldTest {
     }
 
     private static void faultRefusals() {
-        WordRows rows = withNotes(2);
+        WordRows rows = Checks.withNotes(2);
         rows.syllable(0, 0, 5, 0, false);
         due("19: what -1", rows.fault(0, -1), OUTSIDE);
         due("19: what 3", rows.fault(0, 3), OUTSIDE);
@@ -104,7 +96,7 @@ public final class ToldTest {
     }
 
     private static void manyFaults() {
-        WordRows rows = withNotes(60);
+        WordRows rows = Checks.withNotes(60);
         for (int v = 0; v < 4; v++) {
             rows.syllable(59, v, 5, 0, true);
         }
@@ -116,7 +108,7 @@ public final class ToldTest {
     }
 
     private static WordRows alike() {
-        WordRows rows = withNotes(3);
+        WordRows rows = Checks.withNotes(3);
         for (int v = 1; v < 4; v += 2) {
             rows.syllable(0, v, 5, 2, true);
             rows.syllable(0, v, 7, 3, true);
@@ -151,15 +143,15 @@ public final class ToldTest {
         due("20: one is tied", tied.shares(3), NONE);
         tied.syllable(2, 1, 9, 3, false);
         due("20: another second vowel", tied.shares(3), NONE);
-        due("20: verses without boxes are not alike", withNotes(2).shares(1), NONE);
-        WordRows wiped = withNotes(1);
+        due("20: verses without boxes are not alike", Checks.withNotes(2).shares(1), NONE);
+        WordRows wiped = Checks.withNotes(1);
         wiped.syllable(0, 0, 5, 0, false);
         wiped.syllable(0, 0, 6, 0, false);
         wiped.wipe(0, 0);
         wiped.syllable(0, 0, 5, 0, false);
         wiped.syllable(0, 1, 5, 0, false);
         due("20: what was wiped does not count", wiped.shares(1), 0);
-        WordRows last = withNotes(60);
+        WordRows last = Checks.withNotes(60);
         for (int v = 0; v < 2; v++) {
             last.syllable(59, v, 5, 0, false);
             last.syllable(59, v, 6, 0, false);
@@ -175,7 +167,7 @@ public final class ToldTest {
     }
 
     private static void sharingBesideRefrains() {
-        WordRows rows = withNotes(3);
+        WordRows rows = Checks.withNotes(3);
         rows.refrain(1, 1);
         rows.syllable(0, 0, 5, 0, false);
         rows.syllable(1, 0, 5, 0, false);
@@ -190,7 +182,7 @@ public final class ToldTest {
     }
 
     private static void rows() {
-        WordRows rows = withNotes(2);
+        WordRows rows = Checks.withNotes(2);
         due("21: verse -1", rows.row(-1), UNKNOWN);
         due("21: verse 4", rows.row(4), UNKNOWN);
         due("21: no boxes", rows.row(0), NONE);
@@ -211,7 +203,7 @@ public final class ToldTest {
     }
 
     private static void in() {
-        WordRows rows = withNotes(6);
+        WordRows rows = Checks.withNotes(6);
         rows.melisma(1, 3);
         rows.refrain(2, 3);
         due("22: note -1", rows.in(-1, 0), UNKNOWN);
@@ -228,7 +220,7 @@ public final class ToldTest {
     }
 
     private static void told() {
-        WordRows rows = withNotes(7);
+        WordRows rows = Checks.withNotes(7);
         rows.syllable(0, 0, 5, 0, false);
         rows.syllable(0, 0, 5, 0, false);
         rows.syllable(0, 3, 5, 0, false);
@@ -259,7 +251,7 @@ public final class ToldTest {
     }
 
     private static void clear() {
-        WordRows rows = withNotes(9);
+        WordRows rows = Checks.withNotes(9);
         due("29: nine notes", rows.clear(), 9);
         due("29: none", rows.clear(), 0);
         rows.letter(1);
@@ -289,7 +281,7 @@ public final class ToldTest {
     }
 
     private static void clearLeavesNothing() {
-        WordRows rows = withNotes(4);
+        WordRows rows = Checks.withNotes(4);
         rows.syllable(0, 0, 50, 5, true);
         rows.syllable(0, 0, 50, 5, true);
         rows.syllable(3, 1, 50, 5, true);
