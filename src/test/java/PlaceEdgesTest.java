@@ -35,6 +35,14 @@ public final class PlaceEdgesTest extends Edges {
                 due("its box", rows.box(0, v, 0), 0);
             }
         }
+        int[][] tiedAndX = {{1, 1, 3}, {1, 2, 4}, {200, 199, 202}, {200, 200, 202}};
+        for (int[] one : tiedAndX) {
+            WordRows rows = placedAfter(both(notes(1), r -> {
+                r.syllable(0, 0, one[0], 0, false);
+                r.syllable(0, 0, one[1], 0, false);
+            }));
+            due("widths " + one[0] + " and " + one[1] + ", tied", rows.x(0, 0), one[2]);
+        }
         Past two = both(notes(2), r -> r.syllable(1, 0, 41, 0, false));
         due("an offset of 20 at 20", placedAfter(two).x(1, 0), 20);
         Past wider = both(notes(2), r -> r.syllable(1, 0, 42, 0, false));

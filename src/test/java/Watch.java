@@ -8,7 +8,7 @@ import java.util.List;
  */
 final class Watch {
     enum View {
-        SETTINGS, LATEST_CUTS, CUTS, PLACES, VOWELS, VERSES, NOTES
+        SETTINGS, LATEST_CUTS, CUTS, PLACES, VOWELS, VERSES, NOTES, RESTS
     }
 
     /** A call with its arguments (0 where it has none) and its answer, or the class that it threw. */
@@ -42,6 +42,7 @@ final class Watch {
             case VOWELS -> watch.tellVowels();
             case VERSES -> watch.tellVerses();
             case NOTES -> watch.tellNotes();
+            case RESTS -> watch.tellRests();
         }
         return watch.lines;
     }
@@ -201,7 +202,7 @@ final class Watch {
         }
     }
 
-    /** Without chords and with translations alone the places tell widths and lengths; a rest takes no word. */
+    /** Without chords and with translations alone the places tell widths and lengths. */
     private void tellNotes() {
         for (int v = 0; v < VERSES; v++) {
             int verse = v;
@@ -220,6 +221,10 @@ final class Watch {
             int note = i;
             ask(() -> rows.x(note, 0), "x", note, 0);
         }
+    }
+
+    /** A rest takes no word. */
+    private void tellRests() {
         for (int i = 0; i < noteCount; i++) {
             int note = i;
             ask(() -> rows.syllable(note, 0, 1, 0, false), "syllable", note, 0);
