@@ -756,7 +756,8 @@ public final class WordRows {
             }
             int first = MOST_TIED * note;
             for (int at = first; at < first + counts[note]; at++) {
-                if (widths[at] != other.widths[at] || vowels[at] != other.vowels[at] || goings[at] != other.goings[at]) {
+                if (widths[at] != other.widths[at] || vowels[at] != other.vowels[at]
+                        || goings[at] != other.goings[at]) {
                     return false;
                 }
             }

@@ -100,7 +100,7 @@ abstract class Edges {
         changesNothing(what, past, r -> throwsAway(r, ask));
     }
 
-    private static void throwsAway(WordRows rows, Ask ask) {
+    static void throwsAway(WordRows rows, Ask ask) {
         try {
             ask.of(rows);
         } catch (ArrayIndexOutOfBoundsException | ArithmeticException e) {
@@ -108,7 +108,7 @@ abstract class Edges {
         }
     }
 
-    private static void changesNothing(String what, Past past, Past call) {
+    static void changesNothing(String what, Past past, Past call) {
         tellAlike(what + " changes nothing", both(past, call), past);
     }
 

@@ -47,6 +47,13 @@ public final class NoteEdgesTest extends Edges {
         }
     }
 
+    static void newObjectBesideAnother() {
+        says("1: Nothing is there, whatever another object has");
+        tellAlike("made behind another", rows -> after(Edges::song), Edges::nothing);
+        tellAlike("with a song of its own", both(Edges::song, rows -> after(Edges::longSong)), Edges::song);
+        tellAlike("beside one that is cleared", both(Edges::song, rows -> after(Edges::shortSong).clear()), Edges::song);
+    }
+
     // ---- which notes and verses there are
 
     /** Makes each call that wants a note and a box there. */
